@@ -5,11 +5,6 @@ public final class PromisesTest {
     private static final int FULL = BehindStore.FULL;
     private static final int CONFLICT = BehindStore.CONFLICT;
     private static final int BUSY = BehindStore.BUSY;
-    // 32 and its like are here because a shift takes its distance modulo 32.
-    private static final int[] NOT_SLOTS =
-        {-1, 4, 5, 32, 33, 64, -32, Integer.MIN_VALUE, Integer.MAX_VALUE};
-    private static final int[] NOT_KEYS =
-        {-1, 8, 9, 32, 33, 64, -32, Integer.MIN_VALUE, Integer.MAX_VALUE};
 
     private static final Check check = new Check();
 
@@ -35,25 +30,6 @@ public final class PromisesTest {
         check.end();
     }
 
-    /** Commits one transaction that writes v to each key of the mask. */
-    private static int commitKeys(BehindStore x, int keyMask, int v) {
-        int t = x.begin();
-        for (int key = 0; key < 8; key++) {
-            if ((keyMask & (1 << key)) != 0) {
-                x.write(t, key, v);
-            }
-        }
-        return x.commit(t);
-    }
-
-    private static BehindStore withAllOpen() {
-        BehindStore x = new BehindStore();
-        for (int i = 0; i < 4; i++) {
-            x.begin();
-        }
-        return x;
-    }
-
     private static void newObject() {
         check.part("promise 1");
         BehindStore x = new BehindStore();
@@ -68,7 +44,7 @@ public final class PromisesTest {
         check.due("flush", x.flush(1), 0);
         check.due("seal", x.seal(), NONE);
 
-        commitKeys(x, 1, 5);
+        Stores.commitKeys(x, 1, 5);
         BehindStore y = new BehindStore();
         check.due("commits of a second object", y.commits(), 0);
         check.due("value of a second object", y.value(0), 0);
@@ -100,14 +76,14 @@ public final class PromisesTest {
 
     private static void write() {
         check.part("promise 3");
-        BehindStore x = withAllOpen();
+        BehindStore x = Stores.withAllOpen();
         check.due("write", x.write(2, 0, 5), OK);
         check.due("write last key", x.write(2, 7, Integer.MIN_VALUE), OK);
         check.due("write again", x.write(2, 0, 6), OK);
-        for (int key : NOT_KEYS) {
+        for (int key : Stores.NOT_KEYS) {
             check.due("write to key " + key, x.write(2, key, 1), NONE);
         }
-        for (int t : NOT_SLOTS) {
+        for (int t : Stores.NOT_SLOTS) {
             check.due("write by " + t, x.write(t, 3, 1), NONE);
         }
         x.abort(1);
@@ -130,7 +106,7 @@ public final class PromisesTest {
     private static void read() {
         check.part("promise 4");
         BehindStore x = new BehindStore();
-        commitKeys(x, 0b11, 5);
+        Stores.commitKeys(x, 0b11, 5);
         x.begin();
         x.begin();
         check.due("snapshot", x.read(0, 0), 5);
@@ -150,20 +126,20 @@ public final class PromisesTest {
         x.seal();
         x.flush(100);
         check.due("snapshot after a flush", x.read(1, 0), 5);
-        for (int key : NOT_KEYS) {
+        for (int key : Stores.NOT_KEYS) {
             check.due("read key " + key, x.read(1, key), 0);
         }
-        commitKeys(x, 0xff, 3);
+        Stores.commitKeys(x, 0xff, 3);
         x.begin();
         x.begin();
-        for (int t : NOT_SLOTS) {
+        for (int t : Stores.NOT_SLOTS) {
             check.due("read by " + t, x.read(t, 0), 0);
         }
     }
 
     private static void commit() {
         check.part("promise 5");
-        BehindStore x = withAllOpen();
+        BehindStore x = Stores.withAllOpen();
         x.write(0, 0, 1);
         check.due("commit", x.commit(0), OK);
         check.due("commits", x.commits(), 1);
@@ -176,7 +152,7 @@ public final class PromisesTest {
         check.due("durable before the flush", x.durable(), 0);
         x.begin();
         x.begin();
-        for (int t : NOT_SLOTS) {
+        for (int t : Stores.NOT_SLOTS) {
             check.due("commit of " + t, x.commit(t), NONE);
         }
         check.due("open after wrong commits", x.open(), 15);
@@ -191,7 +167,7 @@ public final class PromisesTest {
         BehindStore z = new BehindStore();
         z.begin();
         z.write(0, 0, 1);
-        commitKeys(z, 0b10, 7);
+        Stores.commitKeys(z, 0b10, 7);
         check.due("commit beside a newer one", z.commit(0), OK);
         check.due("its key", z.value(0), 1);
         check.due("the newer one's key is kept", z.value(1), 7);
@@ -199,7 +175,7 @@ public final class PromisesTest {
 
     private static void commitConflicts() {
         check.part("promise 5, conflicts");
-        BehindStore x = withAllOpen();
+        BehindStore x = Stores.withAllOpen();
         x.write(0, 3, 1);
         x.write(1, 3, 2);
         x.write(1, 4, 2);
@@ -216,7 +192,7 @@ public final class PromisesTest {
         check.due("a refused commit makes no conflict", x.commit(3), OK);
         check.due("steps without the refused commit", x.seal(), 4);
 
-        BehindStore y = withAllOpen();
+        BehindStore y = Stores.withAllOpen();
         y.write(0, 1, 1);
         y.commit(0);
         y.write(1, 1, 1);
@@ -231,19 +207,19 @@ public final class PromisesTest {
         y.write(3, 1, 4);
         check.due("with a commit that is durable by now", y.commit(3), CONFLICT);
 
-        BehindStore z = withAllOpen();
+        BehindStore z = Stores.withAllOpen();
         z.write(0, 1, 1);
         z.abort(0);
         z.write(1, 1, 2);
         check.due("with one that was aborted", z.commit(1), OK);
-        commitKeys(z, 0b100, 1);
+        Stores.commitKeys(z, 0b100, 1);
         z.write(2, 1, 3);
         check.due("with a commit that is not the newest", z.commit(2), CONFLICT);
     }
 
     private static void abort() {
         check.part("promise 6");
-        BehindStore x = withAllOpen();
+        BehindStore x = Stores.withAllOpen();
         x.write(1, 2, 5);
         check.due("abort", x.abort(1), OK);
         check.due("open", x.open(), 0b1101);
@@ -255,7 +231,7 @@ public final class PromisesTest {
         check.due("abort of one that wrote none", x.abort(0), OK);
         x.begin();
         x.begin();
-        for (int t : NOT_SLOTS) {
+        for (int t : Stores.NOT_SLOTS) {
             check.due("abort of " + t, x.abort(t), NONE);
         }
         check.due("open after wrong aborts", x.open(), 15);
@@ -272,11 +248,11 @@ public final class PromisesTest {
         x.write(0, 1, 2);
         x.write(0, 2, 2);
         x.commit(0);
-        commitKeys(x, 0b110, 3);
-        commitKeys(x, 0, 0);
+        Stores.commitKeys(x, 0b110, 3);
+        Stores.commitKeys(x, 0, 0);
         check.due("a key counts once in each transaction", x.seal(), 5);
         check.due("busy, nothing waiting", x.seal(), BUSY);
-        commitKeys(x, 0b1000, 4);
+        Stores.commitKeys(x, 0b1000, 4);
         check.due("busy, one waiting", x.seal(), BUSY);
         check.due("stepsLeft after BUSY", x.stepsLeft(), 5);
         x.flush(4);
@@ -287,7 +263,7 @@ public final class PromisesTest {
         x.flush(2);
         check.due("all is durable", x.seal(), NONE);
         check.due("durable", x.durable(), 3);
-        commitKeys(x, 0xff, 5);
+        Stores.commitKeys(x, 0xff, 5);
         check.due("all keys", x.seal(), 9);
     }
 
@@ -295,7 +271,7 @@ public final class PromisesTest {
         check.part("promise 8");
         BehindStore x = new BehindStore();
         check.due("nothing flushing", x.flush(5), 0);
-        commitKeys(x, 0b111, 1);
+        Stores.commitKeys(x, 0b111, 1);
         check.due("only waiting", x.flush(5), 0);
         x.seal();
         check.due("0 steps", x.flush(0), 0);
@@ -306,7 +282,7 @@ public final class PromisesTest {
         check.due("1 step", x.flush(1), 1);
         check.due("durable before the last step", x.durable(), 0);
         check.due("safeValue before the last step", x.safeValue(0), 0);
-        commitKeys(x, 0b1, 2);
+        Stores.commitKeys(x, 0b1, 2);
         check.due("more than are left", x.flush(3), 1);
         check.due("durable", x.durable(), 1);
         check.due("safeValue without what waits", x.safeValue(0), 1);
@@ -314,7 +290,7 @@ public final class PromisesTest {
         x.seal();
         check.due("greatest int", x.flush(Integer.MAX_VALUE), 2);
         check.due("durable", x.durable(), 2);
-        commitKeys(x, 0b11, 3);
+        Stores.commitKeys(x, 0b11, 3);
         x.seal();
         check.due("exactly all", x.flush(3), 3);
         check.due("durable", x.durable(), 3);
@@ -325,11 +301,11 @@ public final class PromisesTest {
         check.part("promise 9");
         BehindStore x = new BehindStore();
         check.due("new", x.stepsLeft(), 0);
-        commitKeys(x, 0b11, 1);
+        Stores.commitKeys(x, 0b11, 1);
         check.due("waiting only", x.stepsLeft(), 0);
         x.seal();
         check.due("sealed", x.stepsLeft(), 3);
-        commitKeys(x, 0b11, 2);
+        Stores.commitKeys(x, 0b11, 2);
         check.due("a later commit adds none", x.stepsLeft(), 3);
         x.flush(1);
         check.due("one step taken", x.stepsLeft(), 2);
@@ -347,10 +323,10 @@ public final class PromisesTest {
         BehindStore x = new BehindStore();
         x.crash();
         check.due("commits of a new object", x.commits(), 0);
-        commitKeys(x, 0b11, 1);
+        Stores.commitKeys(x, 0b11, 1);
         x.seal();
         x.flush(3);
-        commitKeys(x, 0b101, 2);
+        Stores.commitKeys(x, 0b101, 2);
         x.begin();
         x.begin();
         x.write(1, 1, 9);
@@ -383,9 +359,9 @@ public final class PromisesTest {
     private static void crashWhileFlushing() {
         check.part("promise 10, flushing");
         BehindStore x = new BehindStore();
-        commitKeys(x, 0b1111, 1);
+        Stores.commitKeys(x, 0b1111, 1);
         x.seal();
-        commitKeys(x, 0b1, 2);
+        Stores.commitKeys(x, 0b1, 2);
         x.flush(4);
         x.crash();
         check.due("commits", x.commits(), 0);
@@ -394,15 +370,15 @@ public final class PromisesTest {
         check.due("flush", x.flush(1), 0);
         check.due("durable", x.durable(), 0);
         check.due("seal", x.seal(), NONE);
-        commitKeys(x, 0b10, 5);
+        Stores.commitKeys(x, 0b10, 5);
         check.due("seal of what came after", x.seal(), 2);
         x.flush(2);
         check.due("durable", x.durable(), 1);
         check.due("safeValue of a lost key", x.safeValue(0), 0);
         check.due("safeValue of the new key", x.safeValue(1), 5);
 
-        BehindStore y = withAllOpen();
-        commitKeys(y, 0b1, 1);
+        BehindStore y = Stores.withAllOpen();
+        Stores.commitKeys(y, 0b1, 1);
         y.write(2, 0, 4);
         y.write(3, 0, 4);
         y.crash();
@@ -420,12 +396,12 @@ public final class PromisesTest {
         check.part("promise 11");
         BehindStore x = new BehindStore();
         for (int i = 1; i <= 20; i++) {
-            commitKeys(x, 0b1, i);
+            Stores.commitKeys(x, 0b1, i);
             check.due("commits", x.commits(), i);
         }
         x.seal();
         check.due("sealed ones count", x.commits(), 20);
-        commitKeys(x, 0b1, 0);
+        Stores.commitKeys(x, 0b1, 0);
         x.flush(100);
         check.due("durable ones count", x.commits(), 21);
         x.crash();
@@ -435,18 +411,18 @@ public final class PromisesTest {
     private static void durable() {
         check.part("promise 12");
         BehindStore x = new BehindStore();
-        commitKeys(x, 0b1, 1);
-        commitKeys(x, 0b1, 2);
+        Stores.commitKeys(x, 0b1, 1);
+        Stores.commitKeys(x, 0b1, 2);
         check.due("waiting", x.durable(), 0);
         x.seal();
-        commitKeys(x, 0b1, 3);
+        Stores.commitKeys(x, 0b1, 3);
         x.flush(2);
         check.due("flushing", x.durable(), 0);
         x.flush(1);
         check.due("flushed", x.durable(), 2);
         x.crash();
         check.due("crashed", x.durable(), 2);
-        commitKeys(x, 0b1, 4);
+        Stores.commitKeys(x, 0b1, 4);
         x.seal();
         x.flush(2);
         check.due("flushed again", x.durable(), 3);
@@ -455,8 +431,8 @@ public final class PromisesTest {
     private static void value() {
         check.part("promise 13");
         BehindStore x = new BehindStore();
-        commitKeys(x, 0xff, 1);
-        commitKeys(x, 0b10000001, -2);
+        Stores.commitKeys(x, 0xff, 1);
+        Stores.commitKeys(x, 0b10000001, -2);
         check.due("first key", x.value(0), -2);
         check.due("last key", x.value(7), -2);
         check.due("key of the first commit", x.value(6), 1);
@@ -465,10 +441,10 @@ public final class PromisesTest {
         check.due("an open write", x.value(6), 1);
         x.seal();
         check.due("sealed", x.value(0), -2);
-        commitKeys(x, 0b1, 5);
+        Stores.commitKeys(x, 0b1, 5);
         x.flush(100);
         check.due("a flush keeps what waits", x.value(0), 5);
-        for (int key : NOT_KEYS) {
+        for (int key : Stores.NOT_KEYS) {
             check.due("value of key " + key, x.value(key), 0);
         }
     }
@@ -476,10 +452,10 @@ public final class PromisesTest {
     private static void safeValue() {
         check.part("promise 14");
         BehindStore x = new BehindStore();
-        commitKeys(x, 0xff, 1);
+        Stores.commitKeys(x, 0xff, 1);
         check.due("waiting", x.safeValue(0), 0);
         x.seal();
-        commitKeys(x, 0b1, 2);
+        Stores.commitKeys(x, 0b1, 2);
         check.due("flushing", x.safeValue(0), 0);
         x.flush(8);
         check.due("one step before the end", x.safeValue(0), 0);
@@ -487,7 +463,7 @@ public final class PromisesTest {
         for (int key = 0; key < 8; key++) {
             check.due("flushed", x.safeValue(key), 1);
         }
-        for (int key : NOT_KEYS) {
+        for (int key : Stores.NOT_KEYS) {
             check.due("safeValue of key " + key, x.safeValue(key), 0);
         }
         check.due("asking is no crash", x.value(0), 2);
@@ -498,7 +474,7 @@ public final class PromisesTest {
 
     private static void conflicts() {
         check.part("promise 15");
-        BehindStore x = withAllOpen();
+        BehindStore x = Stores.withAllOpen();
         x.write(0, 0, 1);
         x.write(0, 7, 1);
         x.write(1, 0, 2);
@@ -523,7 +499,7 @@ public final class PromisesTest {
         x.commit(3);
         check.due("of the new one, overtaken", x.conflicts(0), 1);
         x.begin();
-        for (int t : NOT_SLOTS) {
+        for (int t : Stores.NOT_SLOTS) {
             check.due("conflicts of " + t, x.conflicts(t), 0);
         }
         x.abort(1);
