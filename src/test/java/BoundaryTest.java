@@ -100,8 +100,8 @@ public final class BoundaryTest {
         Stores.Calls before = STATES.get(state);
         String where = " (" + state + ")";
         check.due(call + where, made.of(Stores.in(before)), due);
-        List<List<Integer>> with = Stores.seenAfter(before, made::of);
-        List<List<Integer>> without = Stores.seenAfter(before, x -> { });
+        List<Map<String, Integer>> with = Stores.seenAfter(before, made::of);
+        List<Map<String, Integer>> without = Stores.seenAfter(before, x -> { });
         check.isTrue(call + " changes nothing" + where, with.equals(without));
     }
 
@@ -567,8 +567,8 @@ public final class BoundaryTest {
             BehindStore x = Stores.in(before);
             check.due("commit (" + state + ")", x.commit(1), CONFLICT);
             check.due("open (" + state + ")", x.open(), 0b1101);
-            List<List<Integer>> refused = Stores.seenAfter(before, y -> y.commit(1));
-            List<List<Integer>> aborted = Stores.seenAfter(before, y -> y.abort(1));
+            List<Map<String, Integer>> refused = Stores.seenAfter(before, y -> y.commit(1));
+            List<Map<String, Integer>> aborted = Stores.seenAfter(before, y -> y.abort(1));
             check.isTrue("CONFLICT is as abort (" + state + ")", refused.equals(aborted));
         }
         BehindStore x = Stores.withAllOpen();

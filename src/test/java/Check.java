@@ -21,6 +21,10 @@ final class Check {
         }
     }
 
+    boolean allAsDue() {
+        return wrong == 0;
+    }
+
     void end() {
         System.out.println(wrong == 0 ? "all as due" : wrong + " not as due");
         if (wrong != 0) {

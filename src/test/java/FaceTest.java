@@ -18,7 +18,9 @@ public final class FaceTest {
 
         check.part("face");
         Set<String> want = Set.of(
-            "OK", "NONE", "FULL", "CONFLICT", "BUSY", "BehindStore()",
+            "public static final int OK", "public static final int NONE",
+            "public static final int FULL", "public static final int CONFLICT",
+            "public static final int BUSY", "public BehindStore()",
             "public int begin()", "public int write(int,int,int)", "public int read(int,int)",
             "public int commit(int)", "public int abort(int)", "public int seal()",
             "public int flush(int)", "public int stepsLeft()", "public void crash()",
@@ -26,8 +28,10 @@ public final class FaceTest {
             "public int safeValue(int)", "public int conflicts(int)", "public int open()");
         Set<String> got = visibleMembers();
         check.isTrue("members " + got + " are " + new TreeSet<>(want), got.equals(want));
-        int modifiers = BehindStore.class.getModifiers();
-        check.isTrue("public final", Modifier.isPublic(modifiers) && Modifier.isFinal(modifiers));
+        check.isTrue("public final class BehindStore",
+            BehindStore.class.toGenericString().equals("public final class BehindStore"));
+        check.isTrue("extends nothing", BehindStore.class.getSuperclass() == Object.class);
+        check.due("interfaces", BehindStore.class.getInterfaces().length, 0);
         check.end();
     }
 
@@ -35,12 +39,12 @@ public final class FaceTest {
         Set<String> names = new TreeSet<>();
         for (Field field : BehindStore.class.getDeclaredFields()) {
             if (!Modifier.isPrivate(field.getModifiers())) {
-                names.add(field.getName());
+                names.add(field.toString().replace("BehindStore.", ""));
             }
         }
         for (Constructor<?> made : BehindStore.class.getDeclaredConstructors()) {
             if (!Modifier.isPrivate(made.getModifiers())) {
-                names.add(made.toString().replace("public ", ""));
+                names.add(made.toString());
             }
         }
         for (Method method : BehindStore.class.getDeclaredMethods()) {

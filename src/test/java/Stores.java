@@ -175,8 +175,8 @@ final class Stores {
     };
 
     /** All that can be seen of a store after the calls of a state, one more, and each future. */
-    static List<List<Integer>> seenAfter(Calls state, Calls call) {
-        List<List<Integer>> all = new ArrayList<>();
+    static List<Map<String, Integer>> seenAfter(Calls state, Calls call) {
+        List<Map<String, Integer>> all = new ArrayList<>();
         for (Calls future : FUTURES) {
             BehindStore x = in(state);
             call.on(x);
@@ -186,17 +186,21 @@ final class Stores {
         return all;
     }
 
-    static List<Integer> seen(BehindStore x) {
-        List<Integer> answers = new ArrayList<>(List.of(
-            x.commits(), x.durable(), x.stepsLeft(), x.open()));
+    /** What a store answers when asked all it can be asked, by the call that was made. */
+    static Map<String, Integer> seen(BehindStore x) {
+        Map<String, Integer> answers = new TreeMap<>();
+        answers.put("commits()", x.commits());
+        answers.put("durable()", x.durable());
+        answers.put("stepsLeft()", x.stepsLeft());
+        answers.put("open()", x.open());
         for (int key = 0; key < 8; key++) {
-            answers.add(x.value(key));
-            answers.add(x.safeValue(key));
+            answers.put("value(" + key + ")", x.value(key));
+            answers.put("safeValue(" + key + ")", x.safeValue(key));
         }
         for (int t = 0; t < 4; t++) {
-            answers.add(x.conflicts(t));
+            answers.put("conflicts(" + t + ")", x.conflicts(t));
             for (int key = 0; key < 8; key++) {
-                answers.add(x.read(t, key));
+                answers.put("read(" + t + ", " + key + ")", x.read(t, key));
             }
         }
         return answers;
