@@ -25,10 +25,10 @@ import javax.tools.StandardJavaFileManager;
 import javax.tools.ToolProvider;
 
 /**
- * The rules of LANGUAGE.md that the source itself can show. It asks for somewhat less
- * than they allow (every loop is a for, every array a field's) where that is simpler to
- * look at and the class needs no more. FaceTest has the rest of rule 1, and the tests
- * with wrong inputs have rule 7.
+ * The rules of LANGUAGE.md that the source itself can show. It is stricter than they are
+ * (every loop is a for, every array a field's) where that is simpler to look at and the
+ * class needs no more. FaceTest has the rest of rule 1, and the tests with wrong inputs
+ * have rule 7.
  */
 public final class LanguageTest extends TreeScanner<Void, Void> {
     private static final Path SOURCE = Path.of("src/main/java/BehindStore.java");
